@@ -567,6 +567,10 @@ public final class LeftStates {
             }
         }
 
+        int sectorBits() {
+            return sort == WHOLE ? 1 << sector | 1 << otherSector : 1 << sector;
+        }
+
         long laidOn(long plate) {
             long laid = withFigure(plate, sector, number);
             return sort == WHOLE ? withFigure(laid, otherSector, otherNumber) : laid;
@@ -666,6 +670,20 @@ public final class LeftStates {
                 }
             }
             return laid;
+        }
+
+        /** These writes without those that later ones hide: they leave the same plate. */
+        int shownOf(int reached) {
+            int hidden = 0;
+            int shown = 0;
+            for (int i = size - 1; i >= 0; i--) {
+                if ((reached >> i & 1) != 0) {
+                    int laid = acts[i].sectorBits();
+                    shown |= (laid & ~hidden) != 0 ? 1 << i : 0;
+                    hidden |= laid;
+                }
+            }
+            return shown;
         }
 
         /** What no plate behind k acts may have in its verdict. */
@@ -1176,10 +1194,14 @@ public final class LeftStates {
         int of(int reached) {
             int i = reached & MOST_SETS - 1;
             if (known[i] >> 8 != stamp) {
-                long plate = program.plateOf(i);
-                long healed = healing.healed(plate);
-                int wrong = rules.failingIn(healed) | (healing.isSteady(plate, healed) ? 0 : UNSTEADY);
-                known[i] = stamp << 8 | wrong;
+                int shown = program.shownOf(i) & MOST_SETS - 1;
+                if (known[shown] >> 8 != stamp) {
+                    long plate = program.plateOf(shown);
+                    long healed = healing.after(plate, 0, healing.size);
+                    int wrong = rules.failingIn(healed) | (healing.isSteady(plate, healed) ? 0 : UNSTEADY);
+                    known[shown] = stamp << 8 | wrong;
+                }
+                known[i] = known[shown];
             }
             return known[i] & 255;
         }
