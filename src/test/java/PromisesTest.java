@@ -749,6 +749,17 @@ public final class PromisesTest {
         z.tell(1);
         z.cost(1, 1);
         fewestIs(z, 2, 2, 1, 2, NONE);
+        // two barriers keep the order, or one flush makes the promise true: of like cost the fewer, else the cheaper
+        LeftStates chain = new LeftStates();
+        rule(chain, "!a<b&!b<c");
+        chain.write(0, 1);
+        chain.write(1, 1);
+        chain.write(2, 1);
+        chain.tell(0);
+        chain.cost(1, 2);
+        fewestIs(chain, 2, 1, 0, 0, 2, NONE);
+        chain.cost(1, 3);
+        fewestIs(chain, 2, 2, 1, 1, 0, NONE);
         LeftStates eight = kept("b=0|a=1");
         rule(eight, "h=1");
         eight.write(0, 1);
