@@ -122,33 +122,23 @@ public final class FaceTest {
         must(millis < 60000L, "how long a run takes");
     }
 
-    private static void page(LeftStates x, String text) {
-        for (int i = 0; i < text.length(); i += 8) {
-            long w = 0L;
-            for (int j = Math.min(text.length(), i + 8) - 1; j >= i; j--) {
-                w = w << 8 | text.charAt(j);
-            }
-            x.letters(w);
-        }
-    }
-
     /** All rules hold and all is steady, and each write is needless: nothing ends a search early. */
     private static void calls() {
         LeftStates x = new LeftStates();
         for (int r = 0; r < 6; r++) {
-            page(x, "a-b>9|(c-d>9|(e-f>9|(g-h>9|(a-c>9|(b-d>9|!(e-g>9)&a<9)))))");
+            Help.page(x, "a-b>9|(c-d>9|(e-f>9|(g-h>9|(a-c>9|(b-d>9|!(e-g>9)&a<9)))))");
             must(x.rule() == r, "a long rule");
             x.always(r, true);
         }
         for (int s = 0; s < 8; s++) {
-            page(x, "!(a>9|b>9|c>9|d>9|e>9|f>9|g>9|h>9|a+b+c+d+e+f>90):" + (char) ('a' + s) + "=1+1-1+0");
+            Help.page(x, "!(a>9|b>9|c>9|d>9|e>9|f>9|g>9|h>9|a+b+c+d+e+f>90):" + (char) ('a' + s) + "=1+1-1+0");
             must(x.step() == s, "a long step");
         }
         for (int n = 0; n < 12; n++) {
             x.write(n % 6, 2);
         }
         must(x.needless() == 4095, "each write is needless");
-        int left = 512 - 6 * 10 - 8 * 9 - 13;
+        int left = 512 - 6 * 11 - 8 * 10 - 13;
         for (int n = 0; n < left; n += 8) {
             x.sector(7, n / 8 % 9);
             x.needless();

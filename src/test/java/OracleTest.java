@@ -147,10 +147,7 @@ public final class OracleTest {
                 text = spoil(text);
             }
             for (int i = 0; i < text.length(); i += 8) {
-                long w = 0;
-                for (int j = Math.min(text.length(), i + 8) - 1; j >= i; j--) {
-                    w = w << 8 | text.charAt(j);
-                }
+                long w = Help.word(text, i);
                 if (!check("letters(" + w + ")", x.letters(w), y.letters(w))) {
                     return false;
                 }
