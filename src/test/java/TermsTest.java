@@ -70,8 +70,27 @@ public final class TermsTest {
         s.due("call 512, digest()", x.digest(), Help.mixed(0, 0, 1, 1, 1, 0, 1, 5, 0, 1, 0, 0, 0, 0, 0));
     }
 
+    /** So many changes, one look, so many changes more, and a look at what is otherwise then. */
+    private static void farApart(int ahead, int between) {
+        LeftStates x = Help.keeping("b=0");
+        x.write(0, 1);
+        for (int n = 0; n < ahead; n++) {
+            x.sector(1, 0);
+        }
+        s.due("broken(1) behind " + ahead, x.broken(1), 0);
+        for (int n = 0; n < between; n++) {
+            x.sector(1, 1);
+        }
+        s.due("broken(1) behind " + ahead + " and " + between, x.broken(1), 2);
+    }
+
     /** Nothing of an earlier state shows in a later one, however far they are apart. */
     private static void manyChanges() {
+        for (int ahead = 0; ahead < 12; ahead++) {
+            for (int between = 1; between < 20; between++) {
+                farApart(ahead, between);
+            }
+        }
         LeftStates x = new LeftStates();
         x.letters(Help.word("a<50", 0));
         x.rule();
