@@ -646,6 +646,29 @@ public final class TermsTest {
         w.cost(0, 9);
         w.cost(1, 18);
         asked(w, 18, 1, 0, 0, 2, NONE);
+        fewestPutFirst();
+    }
+
+    /**
+     * Two flushes (behind acts 0 and 3) cost as much as a flush (behind act 1) and two barriers (behind acts 0 and 3), which have
+     * less behind the first act: so what is fewest must be asked ahead of that.
+     */
+    private static void fewestPutFirst() {
+        LeftStates x = Help.keeping("(b=0|a=1)&(d=0|c=1)");
+        Help.rule(x, "a=1");
+        Help.rule(x, "b=1");
+        x.write(0, 1);   // 0
+        x.write(1, 1);   // 1
+        x.tell(1);       // 2
+        x.write(2, 1);   // 3
+        x.write(3, 1);   // 4
+        x.tell(2);       // 5
+        x.cost(1, 2);
+        asked(x, 4, 2, 2, 0, 0, 2, 0, NONE, NONE);
+        x.cost(1, 3);
+        s.due("fewest(0), when a flush costs more", x.fewest(0), 5);
+        s.due("fewest(1), when a flush costs more", x.fewest(1), 3);
+        s.due("fewest(10), when a flush costs more", x.fewest(10), 1);
     }
 
     private static void likeOnes() {
